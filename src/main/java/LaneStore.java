@@ -1615,7 +1615,7 @@ public final class LaneStore {
             idle = 0;
             last = NONE;
             Arrays.fill(emptied, 0);
-            // They are DONE at once, and by others than the w WORKERS.
+            // As these are DONE, completeEnding counts a free WORKER for each.
             free = w - board.counts[OUT];
             for (int i = 0; i < board.standing.size; i++) {
                 board.standing.items[i].ends = tick;
@@ -1641,7 +1641,10 @@ public final class LaneStore {
                 }
                 board.change(t, DONE);
                 free++;
-                last = t.number;
+                // What was OUT already is DONE at once, by none of the w WORKERS.
+                if (passed > 0) {
+                    last = t.number;
+                }
                 emptied[t.lane.number] = passed;
                 releaseBehind(t);
             }
