@@ -462,13 +462,12 @@ public final class LaneStore {
         if (k < 0 || k >= board.counts[WAITS]) {
             return NONE;
         }
-        trial.load(board);
-        return trial.takenAt(k);
+        return trial.takenAt(board, k);
     }
 
     public int turnOf(int task) {
         Task t = taskAt(task);
-        return t == null || t.state != WAITS ? NONE : turnIn(t, t.lane);
+        return t == null || t.state != WAITS ? NONE : trial.turnIn(board, t, t.lane);
     }
 
     public int bestLane(int task, int what) {
@@ -482,7 +481,7 @@ public final class LaneStore {
             if (l != t.lane && (l.openness != OPEN || !l.hasRoom())) {
                 continue;
             }
-            int turn = turnIn(t, l);
+            int turn = trial.turnIn(board, t, l);
             if (best == NONE || turn < fewest) {
                 best = l.number;
                 fewest = turn;
@@ -530,8 +529,7 @@ public final class LaneStore {
         if (!isCrew(w) || what < 0 || what > 2) {
             return NONE;
         }
-        trial.load(board);
-        trial.run(w, now);
+        trial.run(board, w, now);
         switch (what) {
             case 0: return trial.passed;
             case 1: return trial.last;
@@ -544,8 +542,7 @@ public final class LaneStore {
         if (l == null || !isCrew(w)) {
             return NONE;
         }
-        trial.load(board);
-        trial.run(w, now);
+        trial.run(board, w, now);
         return trial.emptied[l.number];
     }
 
@@ -554,8 +551,7 @@ public final class LaneStore {
             return NONE;
         }
         for (int w = 1; w <= WORKERS; w++) {
-            trial.load(board);
-            trial.run(w, now);
+            trial.run(board, w, now);
             if (trial.passed <= n) {
                 return w;
             }
@@ -658,7 +654,7 @@ public final class LaneStore {
         if (tasks.size >= TASKS) {
             return NO_MORE;
         }
-        return isBanned(key) ? KEY_BANNED : 0;
+        return struck.count(key) >= board.rules[BAN] ? KEY_BANNED : 0;
     }
 
     private int whyNotAgain(Task t) {
@@ -671,7 +667,7 @@ public final class LaneStore {
         if (board.withKey(t.key) != null) {
             return KEY_STANDS;
         }
-        return isBanned(t.key) ? KEY_BANNED : 0;
+        return struck.count(t.key) >= board.rules[BAN] ? KEY_BANNED : 0;
     }
 
     private int takeIfCan(int worker) {
@@ -870,10 +866,6 @@ public final class LaneStore {
         return w >= 1 && w <= WORKERS;
     }
 
-    private boolean isBanned(int key) {
-        return struck.count(key) >= board.rules[BAN];
-    }
-
     private static int thousandths(int part, int whole) {
         return whole <= 0 ? 0 : (int) (1000L * part / whole);
     }
@@ -891,11 +883,6 @@ public final class LaneStore {
     }
 
     // ---- reckoning
-
-    private int turnIn(Task t, Lane l) {
-        trial.load(board);
-        return trial.turnIn(t.number, l.number);
-    }
 
     private int failingBy(int tick) {
         int n = 0;
@@ -1377,7 +1364,7 @@ public final class LaneStore {
                 return;
             }
             counts[t.state] += by;
-            if (t.stands()) {
+            if (t.state <= OUT) {
                 t.lane.standing += by;
             }
             if (t.state == WAITS) {
@@ -1388,11 +1375,11 @@ public final class LaneStore {
         }
 
         void settle(Task t) {
-            if (t.behind != null && t.behind.state != DONE) {
-                change(t, HELD);
-            } else {
-                awaitTurn(t);
+            boolean held = t.behind != null && t.behind.state != DONE;
+            if (!held) {
+                liftPass(t.lane);
             }
+            change(t, held ? HELD : WAITS);
         }
 
         void awaitTurn(Task t) {
@@ -1449,10 +1436,17 @@ public final class LaneStore {
 
         Task least(int state, Lane l) {
             Task best = null;
+            int bestOrder = 0;
             for (int i = 0; i < standing.size; i++) {
                 Task t = standing.items[i];
-                if (isOf(t, state, l) && (best == null || isAhead(t, best))) {
+                if (!isOf(t, state, l)) {
+                    continue;
+                }
+                // The row is by numbers: of like ones the first found stays.
+                int order = orderOf(t);
+                if (best == null || order < bestOrder) {
                     best = t;
+                    bestOrder = order;
                 }
             }
             return best;
@@ -1576,7 +1570,8 @@ public final class LaneStore {
         }
 
         /** The k-th TAKEN ON. */
-        int takenAt(int k) {
+        int takenAt(Board real, int k) {
+            load(real);
             for (int n = 0; n < STANDING; n++) {
                 Task t = board.serve(false);
                 if (t == null) {
@@ -1590,9 +1585,10 @@ public final class LaneStore {
         }
 
         /** How many are TAKEN ON ahead of a task, once it is in that lane. */
-        int turnIn(int number, int lane) {
-            Task mover = board.withNumber(number);
-            Lane to = board.laneAt(lane);
+        int turnIn(Board real, Task task, Lane lane) {
+            load(real);
+            Task mover = board.withNumber(task.number);
+            Lane to = board.laneAt(lane.number);
             if (mover != null && to != null && mover.lane != to) {
                 board.transfer(mover, to);
             }
@@ -1601,7 +1597,7 @@ public final class LaneStore {
                 if (t == null) {
                     return NONE;
                 }
-                if (t.number == number) {
+                if (t.number == task.number) {
                     return n;
                 }
             }
@@ -1609,7 +1605,8 @@ public final class LaneStore {
         }
 
         /** FINISH by w WORKERS, from one tick at which something happens to the next. */
-        void run(int w, int tick) {
+        void run(Board real, int w, int tick) {
+            load(real);
             start = tick;
             passed = 0;
             idle = 0;
