@@ -262,6 +262,30 @@ public final class Promises {
         due("3 none is live: its own", 0, y.lane(1, 3));
         y.put(0, 0, 2, 3, 1);
         due("3 one that is held lifts nothing", 5040, y.lane(0, 3));
+        // The same for one that was OUT, that was HELD, that RESTED.
+        LaneStore z = new LaneStore();
+        z.put(0, 0, 1, 1, NONE);
+        z.put(1, 0, 1, 2, NONE);
+        z.put(2, 0, 9, 3, NONE);
+        z.put(2, 0, 9, 4, NONE);
+        z.put(3, 0, 1, 5, 0);
+        z.take(0);
+        z.take(1);
+        z.take(2);
+        z.back(1, 2);
+        due("3 lifted by back", 22680, z.lane(1, 3));
+        z.take(1);
+        z.done(0, 1);
+        due("3 lifted by what was held", 22680, z.lane(3, 3));
+        LaneStore w = new LaneStore();
+        w.put(0, 0, 1, 1, NONE);
+        w.put(1, 0, 9, 2, NONE);
+        w.put(1, 0, 9, 3, NONE);
+        w.take(0);
+        w.take(1);
+        w.fail(0, 1, 1);
+        w.tick(2);
+        due("3 lifted by what rested", 22680, w.lane(0, 3));
     }
 
     private static void p4Done() {
@@ -859,6 +883,9 @@ public final class Promises {
         due("22 n 0", -2, x.steps(0, 0));
         due("22 n 61", -2, x.steps(0, 61));
         due("22 refused", 3, x.store(10));
+        // Of seed 0 the first draw is 12345 / 64 mod 10: 2, a task comes.
+        due("22 n 1", 1, x.steps(0, 1));
+        due("22 it came", 1, x.store(8));
         // The draws are made here anew, and told to another object by its calls.
         for (int seed : new int[] {0, 1, 77, 123456789, Integer.MAX_VALUE}) {
             x = new LaneStore();
@@ -1141,6 +1168,18 @@ public final class Promises {
         x.take(0);
         x.fail(0, 5, 1);
         due("33 last now", 0, x.aside(2));
+        // What stands again stands by its number.
+        x.pardon(0);
+        x.again(3);
+        x.again(2);
+        x.again(0);
+        for (int i = 0; i < 3; i++) {
+            x.take(i == 0 ? 0 : i + 1);
+        }
+        x.tick(10);
+        for (int k = 0; k < 4; k++) {
+            due("33 by numbers " + k, k, x.aside(k));
+        }
     }
 
     private static void p34Ending() {
@@ -1182,6 +1221,10 @@ public final class Promises {
         x.move(0, 3);
         x.tick(1);
         x.take(1);
+        x.put(4, 0, 1, 9, NONE);
+        x.tick(2);
+        x.take(2);
+        due("37 from came on", 2, x.waits(4, 1));
         due("37 of the lane of then", 6, x.waits(3, 0));
         due("37 the other stays", 10, x.waits(0, 0));
         due("37 lane 5", NONE, x.waits(5, 0));
@@ -1271,6 +1314,23 @@ public final class Promises {
         x.take(0);
         due("41 out", NONE, x.turnOf(1));
         due("40 no limit", 2, x.ahead(2));
+        // By WEIGHT, AGE and CAME as they are.
+        LaneStore y = new LaneStore();
+        y.put(0, 1, 4, 1, NONE);
+        y.put(1, 0, 4, 2, NONE);
+        y.tick(5);
+        y.put(0, 2, 4, 3, NONE);
+        y.put(1, 0, 4, 4, NONE);
+        due("40 by rank", 2, y.ahead(0));
+        due("40 in turns", 1, y.ahead(1));
+        y.rule(0, 3);
+        due("40 by age", 0, y.ahead(0));
+        y.arrange(0, 0, 9);
+        due("40 by weight", 1, y.ahead(1));
+        due("40 then", 2, y.ahead(2));
+        y.arrange(1, 0, 2);
+        y.put(0, 0, 4, 5, NONE);
+        due("40 and on", 4, y.ahead(3));
     }
 
     private static void p42BestLane() {
@@ -1355,6 +1415,15 @@ public final class Promises {
         due("44 8: three aside", 3, x.lapse(8, 1));
         due("44 99: five aside", 5, x.lapse(99, 1));
         due("44 99: one wakes", 1, x.lapse(99, 2));
+        LaneStore y = new LaneStore();
+        y.put(0, 0, 1, 1, NONE);
+        y.take(0);
+        y.fail(0, 1, 1);
+        y.tick(2);
+        y.take(0);
+        // It ends at 12, and rests 4 then.
+        due("44 13: rests yet", 0, y.lapse(13, 2));
+        due("44 14: wakes", 1, y.lapse(14, 2));
         due("44 0", NONE, x.lapse(0, 0));
         due("44 100", NONE, x.lapse(100, 0));
         due("44 what 3", NONE, x.lapse(1, 3));
@@ -1437,6 +1506,13 @@ public final class Promises {
         y.cancel(1);
         due("46 less then", 4, y.finish(1, 0));
         due("46 no timer", 0, y.finish(1, 1));
+        // At 3: 0 is due at 5, of size 2; 2 of size 4 waits. 2 (0-4), 0 (2-4).
+        y.put(2, 0, 4, 5, NONE);
+        due("46 both", 4, y.finish(2, 0));
+        due("46 both, the greatest", y.store(8) - 1, y.finish(2, 1));
+        due("46 idle till it is due", 2, y.finish(2, 2));
+        due("46 one after the other", 6, y.finish(1, 0));
+        due("46 then it is last", 0, y.finish(1, 1));
     }
 
     private static void p47Empties() {
@@ -1455,6 +1531,13 @@ public final class Promises {
         due("47 one is out", 15 - 4, x.empties(0, 1));
         x.take(1);
         due("47 all are out", 0, x.empties(1, 1));
+        due("47 lane 2 alone", 2, x.empties(2, 2));
+        x.cancel(3);
+        due("47 afresh each time", 0, x.empties(2, 2));
+        // What is OUT counts for the LIMIT no more.
+        x.arrange(0, 2, 1);
+        x.put(0, 4, 3, 9, NONE);
+        due("47 one by one", 6, x.empties(0, 6));
         due("47 lane 5", NONE, x.empties(5, 1));
         due("47 lane -1", NONE, x.empties(-1, 1));
         due("47 w 0", NONE, x.empties(0, 0));
@@ -1475,7 +1558,15 @@ public final class Promises {
         due("48 zero", NONE, x.enough(0));
         due("48 below 0", NONE, x.enough(-1));
         due("48 any", 1, x.enough(Integer.MAX_VALUE));
-        due("48 two", x.finish(2, 0) <= 9 ? 2 : 3, x.enough(9));
+        // Two: 0 (0-4), 2 (0-6), 3 (4-6), 1 (6-9).
+        due("48 two", 2, x.enough(9));
+        due("48 not two", 3, x.enough(8));
+        LaneStore y = new LaneStore();
+        for (int i = 0; i < 6; i++) {
+            y.put(i % 5, 0, 5, i, NONE);
+        }
+        due("48 all six", 6, y.enough(5));
+        due("48 three in two turns", 3, y.enough(10));
     }
 
     private static void p49Hangs() {
@@ -1563,6 +1654,13 @@ public final class Promises {
         x.take(0);
         x.tick(10);
         due("51 0", 1, x.blamed(0));
+        x.put(0, 0, 1, 24, NONE);
+        x.put(0, 0, 1, 25, 8);
+        x.put(0, 0, 1, 26, 8);
+        x.cancel(8);
+        due("52 101", 101, x.worst());
+        x.discard(9);
+        x.discard(10);
         due("52 the least", 0, x.worst());
         due("51 -1", NONE, x.blamed(-1));
         due("51 102", NONE, x.blamed(102));
