@@ -1638,10 +1638,7 @@ public final class LaneStore {
                 }
                 board.change(t, DONE);
                 free++;
-                // What was OUT already is DONE at once, by none of the w WORKERS.
-                if (passed > 0) {
-                    last = t.number;
-                }
+                last = t.number;
                 emptied[t.lane.number] = passed;
                 releaseBehind(t);
             }

@@ -786,13 +786,14 @@ public final class ModelRuns {
         /** Ticks, the last, idle ticks, then for each lane when it is empty. */
         int[] finishAnew(int w) {
             Model m = copy();
+            int[] answer = {0, -1, 0, 0, 0, 0, 0, 0};
             for (T t : m.tasks) {
                 if (t.is == 3) {
                     m.isDone(t);
+                    answer[1] = t.number;
                 }
             }
             T[] has = new T[w];
-            int[] answer = {0, -1, 0, 0, 0, 0, 0, 0};
             boolean[] stood = new boolean[5];
             for (int i = 0; i < 5; i++) {
                 stood[i] = m.stand(i) > 0;

@@ -1496,7 +1496,8 @@ public final class Promises {
         y.put(0, 0, 2, 1, NONE);
         y.take(0);
         due("46 all are out", 0, y.finish(1, 0));
-        due("46 none by the w", NONE, y.finish(1, 1));
+        due("46 it is the last, done now", 0, y.finish(1, 1));
+        due("46 no tick, none idle", 0, y.finish(6, 2));
         y.rule(2, 5);
         y.fail(0, 1, 1);
         y.every(1, 0, 20, 9, 1);
@@ -1513,6 +1514,38 @@ public final class Promises {
         due("46 idle till it is due", 2, y.finish(2, 2));
         due("46 one after the other", 6, y.finish(1, 0));
         due("46 then it is last", 0, y.finish(1, 1));
+        p46LastOfThoseOut();
+    }
+
+    private static void p46LastOfThoseOut() {
+        LaneStore x = new LaneStore();
+        due("46 none stands, none is last", NONE, x.finish(1, 1));
+        x.put(0, 0, 5, 1, NONE);
+        x.put(1, 0, 5, 2, NONE);
+        x.put(2, 9, 1, 3, NONE);
+        x.put(3, 0, 1, 4, 0);
+        x.take(4);
+        x.take(2);
+        x.take(0);
+        // 3 waits once 0 is DONE, and is DONE behind all that are OUT.
+        due("46 one that was held", 3, x.finish(1, 1));
+        x.cancel(3);
+        due("46 of those out the greatest number", 2, x.finish(1, 1));
+        due("46 by as many as there are", 2, x.finish(6, 1));
+        due("46 in no tick", 0, x.finish(1, 0));
+        x.done(0, x.worker(0, 1));
+        due("46 of those out yet", 1, x.finish(3, 1));
+        x.hand(4, x.worker(4, 1), 5);
+        due("46 not by workers", 1, x.finish(1, 1));
+        x.back(2, x.worker(2, 1));
+        due("46 one that waits is behind those out", 1, x.finish(1, 1));
+        x.take(0);
+        x.fail(0, x.worker(0, 1), 7);
+        due("46 one that rests, too", 1, x.finish(1, 1));
+        x.cancel(1);
+        due("46 one is out", 0, x.finish(1, 1));
+        x.done(5, x.worker(5, 1));
+        due("46 all are done or gone", NONE, x.finish(1, 1));
     }
 
     private static void p47Empties() {
