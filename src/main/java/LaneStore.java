@@ -944,7 +944,7 @@ public final class LaneStore {
     private int asideBy(int cause) {
         int n = 0;
         for (int i = 0; i < asides.size; i++) {
-            if (asides.items[i].latestCause() == cause) {
+            if (asides.items[i].latestCause == cause) {
                 n++;
             }
         }
@@ -969,6 +969,8 @@ public final class LaneStore {
         int doneAt = NONE;
         int[] causes;
         int causesKept;
+        // Told apart from the kept ones: it may have come when no more were kept.
+        int latestCause = NONE;
 
         Task(int number, Lane lane, Task behind) {
             this.number = number;
@@ -1030,6 +1032,7 @@ public final class LaneStore {
         }
 
         void addCause(int cause) {
+            latestCause = cause;
             if (causes == null) {
                 causes = new int[CAUSES_KEPT];
             }
@@ -1044,10 +1047,6 @@ public final class LaneStore {
                 return causesKept;
             }
             return causes == null || k < 0 || k >= causesKept ? NONE : causes[k];
-        }
-
-        int latestCause() {
-            return causesKept == 0 ? NONE : causeAt(causesKept - 1);
         }
 
         int tell(int what) {

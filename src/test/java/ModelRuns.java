@@ -24,6 +24,13 @@ public final class ModelRuns {
     // What a run is like: of how many keys its tasks are, how much of its work fails.
     private static int keys;
     private static int failures;
+    // A run of few tasks, that fail over and over, beyond the causes that are kept.
+    private static boolean grinding;
+    private static int mostCauses = 0;
+    // A run of so many steps and timers that there are 400 tasks, 12 timers in the end.
+    private static boolean flooding;
+    private static int mostTasks = 0;
+    private static int mostTimers = 0;
 
     public static void main(String[] args) {
         long answers = 0;
@@ -37,6 +44,9 @@ public final class ModelRuns {
         for (String name : ASK) {
             mustHaveSeen(seen, name);
         }
+        mustHaveReached("causes of one task", mostCauses, 25);
+        mustHaveReached("tasks", mostTasks, 400);
+        mustHaveReached("timers", mostTimers, 12);
         System.out.println(answers + " answers compared, " + wrong + " wrong");
         if (wrong != 0) {
             System.exit(1);
@@ -50,6 +60,13 @@ public final class ModelRuns {
         }
     }
 
+    private static void mustHaveReached(String what, int most, int need) {
+        if (most < need) {
+            wrong++;
+            System.out.println("the runs had no more " + what + " than " + most);
+        }
+    }
+
     private static int oneRun(int run, Map<String, Integer> seen) {
         Random random = new Random(run);
         LaneStore store = new LaneStore();
@@ -58,6 +75,9 @@ public final class ModelRuns {
         int stepping = random.nextInt(3);
         keys = new int[] {5, 20, 60, 9999}[random.nextInt(4)];
         failures = random.nextInt(4);
+        grinding = run % 6 == 5;
+        flooding = run % 30 == 4;
+        asks = grinding ? 10 : flooding ? 25 : asks;
         for (int i = 0; i < CALLS; i++) {
             String name;
             int[] a;
@@ -65,7 +85,7 @@ public final class ModelRuns {
                 name = ASK[random.nextInt(ASK.length)];
                 a = askArguments(name, random, model);
             } else {
-                name = workName(random, stepping);
+                name = grinding ? grindName(random, model) : flooding ? floodName(random) : workName(random, stepping);
                 a = workArguments(name, random, model);
             }
             long got = call(store, name, a);
@@ -80,7 +100,12 @@ public final class ModelRuns {
                 return i;
             }
         }
-        return CALLS + (run % 4 == 0 ? sweep(run, store, model) : 0);
+        mostTasks = Math.max(mostTasks, model.tasks.size());
+        mostTimers = Math.max(mostTimers, model.timers.size());
+        for (T t : model.tasks) {
+            mostCauses = Math.max(mostCauses, t.causes.size());
+        }
+        return CALLS + (run % 4 == 0 || grinding ? sweep(run, store, model) : 0);
     }
 
     // An object may be used for 512 calls, but this one may be asked on: nothing in it counts calls.
@@ -128,6 +153,27 @@ public final class ModelRuns {
         }
         String name = WORK[random.nextInt(WORK.length)];
         return stepping == 2 && name.equals("steps") ? "raise" : name;
+    }
+
+    private static String grindName(Random random, Model model) {
+        if (model.tasks.size() < 3) {
+            return "put";
+        }
+        if (random.nextInt(25) == 0) {
+            return workName(random, 2);
+        }
+        if (model.count(3, -1) > 0) {
+            return "fail";
+        }
+        if (model.count(0, -1) > 0) {
+            return "take";
+        }
+        return model.count(2, -1) > 0 ? "tick" : random.nextInt(3) == 0 ? "pardon" : "again";
+    }
+
+    private static String floodName(Random random) {
+        int r = random.nextInt(100);
+        return r < 35 ? "steps" : r < 40 ? "every" : r < 60 ? "put" : workName(random, 0);
     }
 
     private static int someTask(Random random, Model model) {
@@ -316,6 +362,7 @@ public final class ModelRuns {
     /** A task of the model. */
     private static final class T {
         int number, lane, priority, size, key, behind, came, is, tried, due, worker, token, ends, doneAt = -1;
+        // Every one; of how many of them cause tells is its own matter.
         List<Integer> causes = new ArrayList<>();
 
         T copy() {
@@ -592,7 +639,7 @@ public final class ModelRuns {
             workers[w].task = null;
             workers[w].failed++;
             t.tried++;
-            addCause(t, cause);
+            t.causes.add(cause);
             line(3, t, w, cause);
             if (t.tried >= rules[3]) {
                 strikes.merge(t.key, 1, Integer::sum);
@@ -607,12 +654,6 @@ public final class ModelRuns {
             close();
         }
 
-        void addCause(T t, int cause) {
-            if (t.causes.size() < 20) {
-                t.causes.add(cause);
-            }
-        }
-
         int fall(List<Integer> roots, int cause) {
             List<Integer> next = new ArrayList<>();
             for (T t : tasks) {
@@ -624,7 +665,7 @@ public final class ModelRuns {
                 T t = tasks.get(n);
                 t.is = 5;
                 aside.add(t);
-                addCause(t, cause);
+                t.causes.add(cause);
                 line(4, t, -1, cause);
             }
             return next.isEmpty() ? 0 : next.size() + fall(next, 100);
@@ -1096,7 +1137,7 @@ public final class ModelRuns {
                     return new int[] {t.lane, t.priority, t.size, t.key, t.behind, t.came, t.is, t.tried, t.is == 2 ? t.due : -1,
                         out ? t.worker : -1, out ? t.token : -1, out ? t.ends : -1, t.doneAt}[q];
                 case "rank": return t == null ? -1000000 : rank(t);
-                case "cause": return t == null ? -1 : q == -1 ? t.causes.size() : at(t.causes, q);
+                case "cause": return t == null ? -1 : q == -1 ? Math.min(t.causes.size(), 20) : q < 20 ? at(t.causes, q) : -1;
                 case "worker":
                     if (!in(p, 0, 5) || !in(q, 0, 5)) {
                         return -1;

@@ -1697,6 +1697,45 @@ public final class Promises {
         due("52 the least", 0, x.worst());
         due("51 -1", NONE, x.blamed(-1));
         due("51 102", NONE, x.blamed(102));
+        p51BlamedPastThoseKept();
+    }
+
+    private static void p51BlamedPastThoseKept() {
+        LaneStore x = new LaneStore();
+        x.rule(3, 1);
+        x.put(0, 0, 1, 5, NONE);
+        for (int i = 1; i <= 24; i++) {
+            failToTheEnd(x, 0, 0, i);
+            due("51 the latest, " + i + " in all", 1, x.blamed(i));
+            due("51 not the one ahead of it, " + i, 0, x.blamed(i - 1));
+            due("52 the latest, " + i + " in all", i, x.worst());
+            x.pardon(5);
+            x.again(0);
+        }
+        due("51 none is aside", 0, x.blamed(24));
+        due("52 none is aside", NONE, x.worst());
+        x.take(0);
+        x.tick(10);
+        due("51 0 past those kept", 1, x.blamed(0));
+        due("52 0 past those kept", 0, x.worst());
+        due("27 kept as before", 20, x.cause(0, NONE));
+        due("27 the last kept as before", 20, x.cause(0, 19));
+        due("27 no more than before", NONE, x.cause(0, 20));
+        LaneStore y = new LaneStore();
+        y.rule(3, 1);
+        y.put(0, 0, 1, 6, NONE);
+        y.put(0, 0, 1, 7, 0);
+        for (int i = 1; i <= 21; i++) {
+            failToTheEnd(y, 0, 0, 3);
+            y.pardon(6);
+            due("51 behind it, " + i, 1, y.blamed(100));
+            y.again(0);
+            y.again(1);
+        }
+        y.cancel(0);
+        due("51 101 past those kept", 1, y.blamed(101));
+        due("51 no longer 100", 0, y.blamed(100));
+        due("52 101 past those kept", 101, y.worst());
     }
 
     private static void line(LaneStore x, int k, int... want) {
