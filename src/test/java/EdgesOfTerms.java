@@ -5,9 +5,6 @@ public final class EdgesOfTerms {
     private static final int NONE = LaneStore.NONE;
     private static final int LEAST = Integer.MIN_VALUE;
     private static final int MOST = Integer.MAX_VALUE;
-    // Sought so that in few calls 398 come, few of which stand in the end.
-    private static final int[] SEEDS = {2199, 609, 1377, 211, 2221, 705, 907, 539, 1377, 2221, 306, 1377, 2221, 1911,
-        2221, 2016, 705, 1377, 1911, 539, 907, 1938, 1911, 1324, 705, 1911, 1377, 2221, 705};
 
     public static void main(String[] args) {
         lanes();
@@ -54,20 +51,6 @@ public final class EdgesOfTerms {
 
     private static void term(String words) {
         Probe.sentence(0, words);
-    }
-
-    /** Taken by a worker who has none; it must be that one. */
-    private static int taken(Probe s, int worker, int task) {
-        s.is(task, "take", worker);
-        return (int) s.peek("store", 11);
-    }
-
-    private static void failed(Probe s, int worker, int task, int cause) {
-        s.does("fail", worker, taken(s, worker, task), cause);
-    }
-
-    private static void completed(Probe s, int worker, int task) {
-        s.is(task, "done", worker, taken(s, worker, task));
     }
 
     private static void lanes() {
@@ -148,7 +131,7 @@ public final class EdgesOfTerms {
         for (int lease : new int[] {1, 2, 98, 99}) {
             Probe s = new Probe();
             s.does("rule", 1, lease).does("tick", 3).does("put", 0, 9, 1, 1, NONE);
-            taken(s, 0, 0);
+            s.taken(0, 0);
             s.is(3 + lease, "task", 0, 11);
             if (lease > 1) {
                 s.does("tick", lease - 1);
@@ -166,7 +149,7 @@ public final class EdgesOfTerms {
             s.does("rule", 2, rest).does("rule", 3, 9).does("put", 0, 0, 1, 1, NONE);
             int now = 0;
             for (int tried = 1; tried <= 8; tried++) {
-                failed(s, 0, 0, 1);
+                s.failed(0, 0, 1);
                 int lasts = rest << (tried - 1);
                 s.is(now + lasts, "task", 0, 8);
                 s.is(tried, "task", 0, 7);
@@ -184,22 +167,22 @@ public final class EdgesOfTerms {
             Probe s = new Probe();
             s.does("rule", 3, tries).does("rule", 2, 1).does("put", 0, 0, 1, 1, NONE);
             for (int tried = 1; tried < tries; tried++) {
-                s.is(2, "fail", 0, taken(s, 0, 0), 1);
+                s.is(2, "fail", 0, s.taken(0, 0), 1);
                 for (int left = 1 << (tried - 1); left > 0; left -= 99) {
                     s.does("tick", Math.min(left, 99));
                 }
             }
-            s.is(5, "fail", 0, taken(s, 0, 0), 1);
+            s.is(5, "fail", 0, s.taken(0, 0), 1);
             s.is(tries, "task", 0, 7);
         }
         Probe s = new Probe();
         s.does("put", 0, 0, 1, 1, NONE);
-        failed(s, 0, 0, 1);
+        s.failed(0, 0, 1);
         s.does("tick", 2);
-        failed(s, 0, 0, 1);
+        s.failed(0, 0, 1);
         s.does("rule", 3, 1).is(2, "task", 0, 6);
         s.does("tick", 4).is(0, "task", 0, 6);
-        s.is(5, "fail", 0, taken(s, 0, 0), 1);
+        s.is(5, "fail", 0, s.taken(0, 0), 1);
         s.is(3, "task", 0, 7);
     }
 
@@ -213,7 +196,7 @@ public final class EdgesOfTerms {
             }
             s.refuses(-4, "put", 2, 0, 1, 900, NONE);
             s.is(room, "store", 9);
-            completed(s, 0, 0);
+            s.completed(0, 0);
             s.is(room, "put", 2, 0, 1, 900, NONE);
             s.refuses(-4, "put", 3, 0, 1, 901, NONE);
         }
@@ -237,8 +220,8 @@ public final class EdgesOfTerms {
         Probe s = new Probe();
         s.does("arrange", 0, 1, 4);
         s.does("put", 0, 9, 1, 1, NONE).does("put", 0, 8, 1, 2, NONE);
-        failed(s, 0, 0, 1);
-        int token = taken(s, 0, 1);
+        s.failed(0, 0, 1);
+        int token = s.taken(0, 1);
         s.does("put", 0, 0, 1, 3, NONE).does("put", 0, 0, 1, 4, 1);
         s.refuses(-4, "put", 0, 0, 1, 5, NONE);
         // Those that are DONE, ASIDE, GONE have none.
@@ -259,7 +242,7 @@ public final class EdgesOfTerms {
         s.does("arrange", 0, 1, 1).is(3, "lane", 0, 5);
         for (int i = 0; i < 3; i++) {
             s.refuses(-4, "put", 0, 0, 1, 9, NONE);
-            completed(s, 0, i);
+            s.completed(0, i);
         }
         s.is(3, "put", 0, 0, 1, 9, NONE);
         s = new Probe();
@@ -269,7 +252,7 @@ public final class EdgesOfTerms {
         s.does("rule", 4, 1).is(3, "store", 9);
         for (int i = 0; i < 3; i++) {
             s.refuses(-4, "put", 4, 0, 1, 9, NONE);
-            completed(s, 0, i);
+            s.completed(0, i);
         }
         s.is(3, "put", 4, 0, 1, 9, NONE);
     }
@@ -283,7 +266,7 @@ public final class EdgesOfTerms {
                 s.is(strike, "strikes", 7);
                 s.none("banned", 0);
                 s.is(strike, "put", 0, 0, 1, 7, NONE);
-                failed(s, 0, strike, 1);
+                s.failed(0, strike, 1);
             }
             s.is(ban, "strikes", 7);
             s.is(7, "banned", 0);
@@ -305,7 +288,7 @@ public final class EdgesOfTerms {
         term("WORKERS 0 .. 5.");
         Probe s = new Probe();
         s.does("put", 0, 0, 1, 1, NONE).does("put", 0, 0, 1, 2, NONE);
-        int token = taken(s, 0, 0);
+        int token = s.taken(0, 0);
         for (int worker : new int[] {-1, 6, LEAST, MOST}) {
             s.refuses(-2, "take", worker);
             s.refuses(-2, "done", worker, token);
@@ -326,35 +309,13 @@ public final class EdgesOfTerms {
         s.is(2, "worker", 5, 3);
     }
 
-    /** 398 have come, in 38 calls; TRIES 1, BAN 2. */
-    private static Probe almostAll() {
-        Probe s = new Probe();
-        s.does("rule", 4, 48).does("rule", 3, 1);
-        for (int lane = 0; lane < 5; lane++) {
-            s.does("arrange", lane, 1, 32);
-        }
-        for (int seed : SEEDS) {
-            s.does("steps", seed, 60);
-        }
-        return s;
-    }
-
-    private static int unusedKey(Probe s) {
-        for (int key = 0; key < 10000; key++) {
-            if (s.peek("keyed", key) == NONE && s.peek("strikes", key) == 0) {
-                return key;
-            }
-        }
-        return NONE;
-    }
-
     private static void fourHundred() {
         term("TASKS have numbers, from 0 on as they come (400 in all)");
         new Probe().is(0, "put", 0, 0, 1, 1, NONE);
-        Probe s = almostAll();
+        Probe s = Scenes.almostAll();
         s.is(398, "store", 8);
         s.is(2, "share", 0, 2);
-        int key = unusedKey(s);
+        int key = Scenes.unusedKey(s);
         s.is(398, "put", 0, 0, 1, key, NONE);
         s.does("cancel", 398);
         Probe t = s.twin();
@@ -392,8 +353,8 @@ public final class EdgesOfTerms {
 
     private static void refusedAtFourHundred() {
         term("-6 there were 400, -7 it is BANNED; of several the greatest.");
-        Probe s = almostAll();
-        int key = unusedKey(s);
+        Probe s = Scenes.almostAll();
+        int key = Scenes.unusedKey(s);
         s.does("put", 0, 0, 1, key, NONE).does("put", 1, 0, 1, key + 1, NONE);
         s.does("rule", 5, 1);
         int banned = (int) s.peek("banned", 0);
@@ -458,31 +419,12 @@ public final class EdgesOfTerms {
         }
     }
 
-    /** 0 WAITS, 1 is HELD, 2 RESTS, 3 is OUT (by 3), 4 is DONE, 5 ASIDE, 6 GONE; keys 10 .. 16. */
-    private static Probe oneOfEach() {
-        Probe s = new Probe();
-        s.does("put", 0, 0, 1, 10, NONE).does("put", 1, 0, 1, 11, 0);
-        s.does("put", 2, 9, 1, 12, NONE).does("put", 2, 8, 1, 13, NONE).does("put", 2, 7, 1, 14, NONE);
-        s.does("put", 3, 0, 1, 16, NONE).does("arrange", 0, 2, 1);
-        // Lane 0 has its LIMIT out meanwhile.
-        int token = taken(s, 0, 0);
-        failed(s, 1, 2, 5);
-        s.does("cancel", 5);
-        taken(s, 3, 3);
-        completed(s, 1, 4);
-        s.does("back", 0, token);
-        s.does("put", 3, 0, 1, 16, NONE).does("put", 3, 0, 1, 15, 6).does("cancel", 6);
-        return s;
-    }
-
-    private static final int[] STATES = {0, 1, 2, 3, 4, 6, 6, 5};
-
     private static void stands() {
         term("A TASK WAITS (0), is HELD (1), RESTS (2), is OUT (3), DONE (4), ASIDE (5), GONE (6); of the first four it STANDS.");
-        Probe s = oneOfEach();
-        for (int task = 0; task < STATES.length; task++) {
-            s.is(STATES[task], "task", task, 6);
-            boolean stands = STATES[task] <= 3;
+        Probe s = Scenes.oneOfEach();
+        for (int task = 0; task < Scenes.STATES.length; task++) {
+            s.is(Scenes.STATES[task], "task", task, 6);
+            boolean stands = Scenes.STATES[task] <= 3;
             int key = (int) s.peek("task", task, 3);
             s.is(stands ? task : NONE, "keyed", key);
             if (stands) {
@@ -502,12 +444,12 @@ public final class EdgesOfTerms {
         term("HELD, if it has one BEHIND that is not DONE, else it WAITS");
         int[] want = {1, 1, 1, 1, 0};
         for (int before = 0; before < want.length; before++) {
-            Probe s = oneOfEach();
+            Probe s = Scenes.oneOfEach();
             s.is(8, "put", 4, 0, 1, 99, before);
             s.is(want[before], "task", 8, 6);
             s.is(before, "task", 8, 4);
         }
-        Probe s = oneOfEach();
+        Probe s = Scenes.oneOfEach();
         s.refuses(-2, "put", 4, 0, 1, 99, 5);
         s.refuses(-2, "put", 4, 0, 1, 99, 6);
         s.refuses(-3, "put", 4, 0, 1, 99, 7);
@@ -537,13 +479,13 @@ public final class EdgesOfTerms {
         Probe s = new Probe();
         s.does("put", 0, 0, 2, 1, NONE).does("put", 1, 0, 3, 2, NONE);
         s.does("put", 0, 0, 2, 3, NONE).does("put", 1, 0, 3, 4, NONE);
-        taken(s, 0, 0);
-        taken(s, 1, 1);
+        s.taken(0, 0);
+        s.taken(1, 1);
         s.is(5040, "lane", 0, 3);
         s.is(7560, "lane", 1, 3);
         s.twin().does("put", 2, 0, 1, 5, NONE).is(5040, "lane", 2, 3);
         // Its own is greater; it is like; it is less.
-        taken(s, 2, 2);
+        s.taken(2, 2);
         s.is(10080, "lane", 0, 3);
         s.does("put", 0, 0, 1, 5, NONE).is(10080, "lane", 0, 3);
         Probe t = s.twin();
@@ -587,7 +529,7 @@ public final class EdgesOfTerms {
                 s.does("put", 0, 0, 1, i, NONE);
             }
             for (int i = 0; i < limit; i++) {
-                taken(s, i, i);
+                s.taken(i, i);
             }
             s.changesNothing(NONE, "take", limit);
             s.is(limit, "arrange", 0, 2, limit + 1);
@@ -653,9 +595,9 @@ public final class EdgesOfTerms {
             for (int size : new int[] {1, 7, 19, 20}) {
                 Probe s = new Probe();
                 s.does("arrange", 1, 0, weight).does("put", 1, 0, size, 1, NONE).does("put", 1, 0, size, 2, NONE);
-                taken(s, 0, 0);
+                s.taken(0, 0);
                 s.is(2520 / weight * size, "lane", 1, 3);
-                taken(s, 1, 1);
+                s.taken(1, 1);
                 s.is(2520 / weight * size * 2, "lane", 1, 3);
             }
         }
@@ -666,7 +608,7 @@ public final class EdgesOfTerms {
         Probe s = new Probe();
         s.does("put", 0, 0, 1, 0, NONE).does("put", 2, 0, 1, 1, 0).does("put", 1, 0, 1, 2, 1);
         s.does("put", 1, 0, 1, 3, 0).does("put", 0, 0, 1, 4, 0).does("cancel", 3);
-        completed(s, 0, 0);
+        s.completed(0, 0);
         s.is(0, "task", 1, 6);
         s.is(1, "task", 2, 6);
         s.is(6, "task", 3, 6);
@@ -675,7 +617,7 @@ public final class EdgesOfTerms {
         s.is(1, "log", 1, 2);
         // None comes BEHIND it.
         s.does("cancel", 1);
-        completed(s, 0, 4);
+        s.completed(0, 4);
         s.is(2, "log", 0, 1);
     }
 
@@ -683,7 +625,7 @@ public final class EdgesOfTerms {
         term("by a CAUSE: TRIED (0 at first) is one more");
         Probe s = new Probe();
         s.does("put", 0, 0, 1, 0, NONE).is(0, "task", 0, 7);
-        int token = taken(s, 0, 0);
+        int token = s.taken(0, 0);
         for (int cause : new int[] {0, -1, 100, 101, LEAST, MOST}) {
             s.refuses(-2, "fail", 0, token, cause);
         }
@@ -700,7 +642,7 @@ public final class EdgesOfTerms {
         s.does("put", 2, 0, 1, 3, 2).does("put", 2, 0, 1, 4, 1).does("put", 3, 0, 1, 5, 4).does("put", 3, 0, 1, 6, 5);
         s.does("put", 4, 0, 1, 7, NONE);
         Probe gone = s.twin();
-        s.is(5, "fail", 0, taken(s, 0, 0), 17);
+        s.is(5, "fail", 0, s.taken(0, 0), 17);
         for (int k = 0; k < 7; k++) {
             s.is(k, "aside", k);
             s.is(k == 0 ? 17 : 100, "cause", k, 0);
@@ -716,7 +658,7 @@ public final class EdgesOfTerms {
         term("(TRIED stays by that.)");
         Probe t = new Probe();
         t.does("put", 0, 9, 1, 0, NONE).does("put", 0, 8, 1, 1, NONE);
-        completed(t, 0, 0);
+        t.completed(0, 0);
         t.does("put", 0, 0, 1, 2, 1);
         t.does("cancel", 1).is(0, "task", 2, 7);
         // As long a row as there may be: 48 stand, one behind the other, and all but one fall.
@@ -741,10 +683,10 @@ public final class EdgesOfTerms {
         term("how often a TASK of it went ASIDE by failing itself");
         Probe s = new Probe();
         s.does("rule", 3, 2).does("rule", 2, 1).does("put", 0, 0, 1, 10, NONE).does("put", 0, 0, 1, 11, 0);
-        failed(s, 0, 0, 1);
+        s.failed(0, 0, 1);
         s.is(0, "strikes", 10);
         s.does("tick", 1);
-        failed(s, 0, 0, 1);
+        s.failed(0, 0, 1);
         s.is(1, "strikes", 10);
         s.is(5, "task", 1, 6);
         s.is(0, "strikes", 11);
@@ -754,7 +696,7 @@ public final class EdgesOfTerms {
         s.is(0, "strikes", 12);
         // By CAUSE 0, too.
         s.does("rule", 3, 1).does("put", 0, 0, 1, 13, NONE);
-        taken(s, 0, 4);
+        s.taken(0, 4);
         s.does("tick", 10).is(1, "strikes", 13);
         term("a KEY is PARDONED (it has no STRIKES)");
         s.is(1, "pardon", 13);
@@ -767,9 +709,9 @@ public final class EdgesOfTerms {
         term("all that are OUT and END by then (no later than TICK) FAIL by CAUSE 0, by numbers");
         Probe s = new Probe();
         s.does("put", 0, 0, 1, 0, NONE).does("put", 0, 9, 1, 1, NONE).does("put", 0, 8, 1, 2, NONE);
-        taken(s, 0, 1);
-        taken(s, 1, 2);
-        taken(s, 2, 0);
+        s.taken(0, 1);
+        s.taken(1, 2);
+        s.taken(2, 0);
         s.does("tick", 1).does("beat", 1, 2).does("tick", 8);
         s.is(3, "store", 4);
         s.does("tick", 1).is(1, "store", 4);
@@ -787,7 +729,7 @@ public final class EdgesOfTerms {
         // One that FAILS at a TICK is not DUE at that one, though its REST is the least.
         Probe t = new Probe();
         t.does("rule", 1, 1).does("rule", 2, 1).does("put", 0, 0, 1, 0, NONE);
-        taken(t, 0, 0);
+        t.taken(0, 0);
         t.does("tick", 1).is(2, "task", 0, 6);
         t.does("tick", 1).is(0, "task", 0, 6);
         term("then of each TIMER of which it is time, by numbers, a TASK comes as it tells, none BEHIND");
@@ -819,7 +761,7 @@ public final class EdgesOfTerms {
                 s.does("put", 4, 0, 1, 51, NONE);
             } else {
                 s.does("rule", 5, 1).does("put", 0, 9, 1, 51, NONE);
-                failed(s, 0, 1, 1);
+                s.failed(0, 1, 1);
             }
             int came = (int) s.peek("store", 8);
             s.does("tick", 3);
@@ -856,8 +798,8 @@ public final class EdgesOfTerms {
             s.does("rule", 3, 1).does("put", 1, 9, 1, 1, NONE).does("put", 2, 0, 1, 2, how == 5 ? 0 : NONE);
             s.does("put", 2, 0, 1, 3, NONE).is(2, "drain", 2);
             s.does("cancel", 2).is(1, "lane", 2, 2);
-            int first = taken(s, 0, 0);
-            int token = how == 5 ? first : taken(s, 1, 1);
+            int first = s.taken(0, 0);
+            int token = how == 5 ? first : s.taken(1, 1);
             s.is(1, "lane", 2, 2);
             s.refuses(-3, "put", 2, 0, 1, 9, NONE);
             if (how == 0) {
@@ -883,17 +825,17 @@ public final class EdgesOfTerms {
         // One that RESTS, that is HELD keeps it open.
         Probe s = new Probe();
         s.does("put", 0, 0, 1, 1, NONE).does("put", 1, 0, 1, 2, 0).does("drain", 0).does("drain", 1);
-        failed(s, 0, 0, 1);
+        s.failed(0, 0, 1);
         s.is(1, "lane", 0, 2);
         s.is(1, "lane", 1, 2);
         s.does("tick", 2);
-        completed(s, 0, 0);
+        s.completed(0, 0);
         s.is(2, "lane", 0, 2);
         s.is(1, "lane", 1, 2);
         // One that is OPEN, and empties, stays so.
         Probe open = new Probe();
         open.does("put", 0, 0, 1, 1, NONE).does("drain", 0).does("open", 0);
-        completed(open, 0, 0);
+        open.completed(0, 0);
         open.is(0, "lane", 0, 2);
     }
 
@@ -936,12 +878,12 @@ public final class EdgesOfTerms {
 
     private static void moved() {
         term("moved to another LANE that is OPEN and has ROOM (it comes there as it is; one that WAITS leaves its LANE, then comes to WAIT there)");
-        Probe s = oneOfEach();
+        Probe s = Scenes.oneOfEach();
         for (int task = 0; task < 3; task++) {
             s.refuses(-3, "move", task, (int) s.peek("task", task, 0));
             Probe t = s.twin();
             t.is(0, "move", task, 4);
-            t.is(STATES[task], "task", task, 6);
+            t.is(Scenes.STATES[task], "task", task, 6);
             t.is(1, "lane", 4, 5);
             t.is(task == 0 ? 1 : 0, "lane", 4, 4);
             t.does("arrange", 4, 1, 1);
@@ -955,7 +897,7 @@ public final class EdgesOfTerms {
         // Alone LIVE, it leaves none LIVE: the PASS of the other LANE stays its own.
         Probe t = new Probe();
         t.does("put", 0, 0, 20, 1, NONE).does("put", 0, 0, 1, 2, NONE);
-        taken(t, 0, 0);
+        t.taken(0, 0);
         t.is(50400, "lane", 0, 3);
         t.does("move", 1, 3).is(0, "lane", 3, 3);
         t.is(1, "store", 12);
@@ -965,7 +907,7 @@ public final class EdgesOfTerms {
         term("one that is ASIDE is tried again (TRIED 0; HELD or it WAITS as one that comes; CAME stays)");
         Probe s = new Probe();
         s.does("rule", 3, 1).does("put", 0, 0, 1, 1, NONE).does("put", 1, 0, 1, 2, 0).does("tick", 4);
-        failed(s, 0, 0, 1);
+        s.failed(0, 0, 1);
         s.does("tick", 1);
         s.refuses(-3, "again", 1);
         s.is(0, "again", 0);
@@ -977,8 +919,8 @@ public final class EdgesOfTerms {
         // As one that comes: its LANE is lifted.
         Probe t = new Probe();
         t.does("rule", 3, 1).does("put", 0, 0, 1, 1, NONE).does("put", 1, 0, 9, 2, NONE).does("put", 1, 0, 9, 3, NONE);
-        failed(t, 0, 0, 1);
-        taken(t, 1, 1);
+        t.failed(0, 0, 1);
+        t.taken(1, 1);
         t.is(2520, "lane", 0, 3);
         t.is(0, "again", 0);
         t.is(22680, "lane", 0, 3);
@@ -1004,7 +946,7 @@ public final class EdgesOfTerms {
         s.is(46, "turnOf", 31);
         s.none("turnOf", 47);
         // What is OUT is not TAKEN, and leaves no place: there is no LIMIT.
-        taken(s, 0, 0);
+        s.taken(0, 0);
         s.is(32, "ahead", 0);
         s.is(1, "ahead", 1);
         s.none("ahead", 46);
@@ -1050,8 +992,8 @@ public final class EdgesOfTerms {
         Probe t = new Probe();
         t.does("put", 0, 0, 1, 0, NONE).does("put", 0, 9, 1, 1, NONE);
         t.does("put", 3, 0, 1, 2, 0).does("put", 2, 0, 1, 3, 1);
-        taken(t, 0, 1);
-        taken(t, 1, 0);
+        t.taken(0, 1);
+        t.taken(1, 0);
         t.is(2, "finish", 1, 0);
         t.is(2, "finish", 1, 1);
         t.is(1, "finish", 2, 0);
@@ -1065,7 +1007,7 @@ public final class EdgesOfTerms {
         term("at one TICK those are DONE first, by numbers, then those that REST and are DUE WAIT, as above, then they TAKE");
         Probe v = new Probe();
         v.does("put", 0, 9, 3, 0, NONE).does("put", 0, 0, 2, 1, NONE).does("put", 1, 0, 5, 2, 1);
-        failed(v, 0, 0, 1);
+        v.failed(0, 0, 1);
         v.does("arrange", 0, 2, 1);
         // 1 (0-2); at 2 the LIMIT is free, 0 is DUE, 2 WAITS: 0 (2-5), 2 (2-7).
         v.is(7, "finish", 2, 0);
@@ -1078,7 +1020,7 @@ public final class EdgesOfTerms {
 
     private static void hangs() {
         term("HANGS on a TASK what comes BEHIND it and STANDS or is ASIDE, and what hangs on that.");
-        Probe s = oneOfEach();
+        Probe s = Scenes.oneOfEach();
         int[] want = {1, 0, 0, 0, 0, 0, 1, 0};
         for (int task = 0; task < want.length; task++) {
             s.is(want[task], "hangs", task);
@@ -1109,10 +1051,10 @@ public final class EdgesOfTerms {
         term("(By one that FAILS at last 3, then 4.)");
         Probe t = new Probe();
         t.does("rule", 3, 2).does("rule", 2, 1).does("put", 0, 0, 1, 1, NONE);
-        failed(t, 3, 0, 8);
+        t.failed(3, 0, 8);
         t.is(3, "log", 0, 1);
         t.does("tick", 1);
-        failed(t, 2, 0, 9);
+        t.failed(2, 0, 9);
         t.is(4, "log", 0, 1);
         t.is(NONE, "log", 0, 4);
         t.is(9, "log", 0, 5);
@@ -1151,7 +1093,7 @@ public final class EdgesOfTerms {
 
     private static void everyCallAtItsFarthest() {
         term("what can't be, answers below NONE, changes nothing, and is counted");
-        Probe s = oneOfEach();
+        Probe s = Scenes.oneOfEach();
         s.does("every", 0, 0, 1, 70, 9);
         int token = (int) s.peek("worker", 3, 1);
         Object[][] calls = {

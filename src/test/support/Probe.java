@@ -31,6 +31,7 @@ final class Probe {
     private static String sentence = "";
     private static int sentences = 0;
     private static int asked = 0;
+    private static int askedBefore = 0;
     private static int wrong = 0;
 
     static {
@@ -48,6 +49,7 @@ final class Probe {
 
     /** The words of the document that what follows tests; promise 0 stands for its terms. */
     static void sentence(int promise, String words) {
+        mustHaveAsked();
         sentence = promise + " '" + words + "'";
         sentences++;
         NAMED.add(promise);
@@ -56,6 +58,14 @@ final class Probe {
         } else if (promise > 0 && !section(promise).contains(words)) {
             tell("that promise has no such words");
         }
+    }
+
+    // A sentence that is named alone tests nothing.
+    private static void mustHaveAsked() {
+        if (!sentence.isEmpty() && asked == askedBefore) {
+            tell("nothing was asked");
+        }
+        askedBefore = asked;
     }
 
     static void due(String what, long want, long got) {
@@ -72,6 +82,7 @@ final class Probe {
 
     /** Says how it went; each of these promises must have been named. */
     static void end(int first, int last) {
+        mustHaveAsked();
         sentence = "all";
         for (int promise = first; promise <= last; promise++) {
             if (!NAMED.contains(promise)) {
@@ -144,6 +155,20 @@ final class Probe {
 
     void none(String name, int... args) {
         is(NONE, name, args);
+    }
+
+    /** Taken by a worker who has none: its TOKEN; it must be that task. */
+    int taken(int worker, int task) {
+        is(task, "take", worker);
+        return (int) peek("store", 11);
+    }
+
+    void failed(int worker, int task, int cause) {
+        does("fail", worker, taken(worker, task), cause);
+    }
+
+    void completed(int worker, int task) {
+        is(task, "done", worker, taken(worker, task));
     }
 
     /** What an object would answer now, were it asked; it is not asked itself. */
