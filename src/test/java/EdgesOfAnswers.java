@@ -497,6 +497,10 @@ public final class EdgesOfAnswers {
         t.is(2, "waits", 1, 0);
         t.is(2, "waits", 1, 1);
         t.is(2, "waits", 1, 2);
+        // One that CAME at 2 and is TAKEN at 2, at 3: none, one TICK.
+        t.does("put", 4, 0, 1, 9, NONE).does("take", 3).is(0, "waits", 4, 1);
+        t.does("back", 3, 6).does("tick", 1).does("take", 3).is(1, "waits", 4, 1);
+        t.is(1, "waits", 4, 0);
     }
 
     private static void share() {
@@ -669,6 +673,14 @@ public final class EdgesOfAnswers {
         alone.is(0, "bestLane", 0, 1);
         alone.does("drain", 0).is(1, "bestLane", 0, 0);
         alone.is(3, "task", 0, 0);
+        // The first of all, in a LANE that has paid much: in the other one it would be the first.
+        Probe first = new Probe();
+        first.does("put", 0, 9, 20, 1, NONE).does("put", 1, 0, 1, 2, NONE).does("put", 1, 0, 1, 3, NONE);
+        first.does("take", 0).does("back", 0, 1).is(2, "turnOf", 0);
+        first.is(1, "bestLane", 0, 0);
+        first.is(0, "bestLane", 0, 1);
+        first.does("arrange", 1, 1, 2).is(2, "bestLane", 0, 0);
+        first.is(1, "bestLane", 0, 1);
     }
 
     private static void chain() {
@@ -779,6 +791,15 @@ public final class EdgesOfAnswers {
         // Lane 0 by its LIMIT: 0 (0-5), 3 (5-6).
         t.is(6, "finish", 6, 0);
         t.is(36 - 15, "finish", 6, 2);
+        // The same from a later TICK on, and till one that RESTS is DUE.
+        t.does("tick", 50).is(6, "finish", 6, 0);
+        t.is(21, "finish", 6, 2);
+        t.does("rule", 2, 9).does("put", 3, 9, 2, 5, NONE).does("cancel", 0).does("cancel", 1).does("cancel", 2);
+        t.does("cancel", 3);
+        t.failed(0, 4, 1);
+        t.does("tick", 4).is(5 + 2, "finish", 1, 0);
+        t.is(5, "finish", 1, 2);
+        t.is(7, "empties", 3, 1);
     }
 
     private static void empties() {
@@ -985,9 +1006,35 @@ public final class EdgesOfAnswers {
         String[] oneOfWould = {"ahead", "turnOf", "safe", "enough", "hangs", "spread", "blamed"};
         String[] twoOfWould = {"bestLane", "chain", "lapse", "finish", "empties", "log"};
         ask(s, oneOfWould, twoOfWould);
+        askedOfFewer();
         Probe before = s.twin();
         s.ask("worst");
         s.isLike(before);
+    }
+
+    /** What would be of many leaves nothing behind for what would be of few. */
+    private static void askedOfFewer() {
+        Probe s = new Probe();
+        for (int i = 0; i < 8; i++) {
+            s.does("put", i % 2, i, 3, i, NONE);
+        }
+        for (int left = 8; left > 0; left--) {
+            // Of the greatest PRIORITY first, the lanes in turns.
+            int even = (left - 1) / 2 * 2;
+            int odd = left / 2 * 2 - 1;
+            for (int k = 0; k <= 8; k++) {
+                s.is(k >= left ? NONE : k % 2 == 0 ? even - k : odd - k + 1, "ahead", k);
+            }
+            s.is(3 * left, "finish", 1, 0);
+            s.is(even, "ahead", 0);
+            s.is((left + 1) / 2 * 3, "finish", 2, 0);
+            s.is(even, "ahead", 0);
+            s.is(0, "turnOf", even);
+            // The one that would be next goes.
+            s.does("cancel", left - 1);
+        }
+        s.is(0, "finish", 1, 0);
+        s.none("ahead", 0);
     }
 
     /** Asked with what can be and with what can't: an object behind all that is like one that was not asked. */

@@ -24,6 +24,7 @@ public final class EdgesOfTerms {
         comes();
         rank();
         pass();
+        passBesideALimit();
         theLane();
         limit();
         firstOfALane();
@@ -42,6 +43,9 @@ public final class EdgesOfTerms {
         takenOn();
         safe();
         finish();
+        fullStoreOfHeld();
+        fullStoreOfResting();
+        fullStoreFinishes();
         hangs();
         log();
         steps();
@@ -499,6 +503,29 @@ public final class EdgesOfTerms {
         s.is(3, "take", 4);
         s.does("put", 1, 0, 1, 10, NONE).is(15120, "lane", 1, 3);
         s.does("put", 3, 0, 1, 11, NONE).is(7560, "lane", 3, 3);
+    }
+
+    private static void passBesideALimit() {
+        term("LANES in which some WAIT are LIVE.");
+        // Lane 0 has its LIMIT OUT, and is LIVE all the same: of it the least PASS is.
+        Probe s = new Probe();
+        s.does("arrange", 0, 2, 1).does("put", 0, 0, 1, 1, NONE).does("put", 1, 0, 9, 2, NONE);
+        s.does("put", 0, 0, 1, 3, NONE).does("put", 1, 0, 9, 4, NONE);
+        s.taken(0, 0);
+        s.taken(1, 1);
+        s.is(2, "store", 12);
+        s.is(22680 - 2520, "spread", 0);
+        s.is(1, "spread", 1);
+        s.is(0, "spread", 2);
+        s.does("put", 2, 0, 1, 5, NONE).is(2520, "lane", 2, 3);
+        // Alone LIVE, at its LIMIT.
+        s.does("cancel", 3).does("cancel", 4).is(0, "spread", 0);
+        s.is(0, "spread", 2);
+        s.does("put", 3, 0, 1, 6, NONE).is(2520, "lane", 3, 3);
+        // None WAITS there but one that is HELD: it is not LIVE.
+        s.does("cancel", 2).does("cancel", 5).does("put", 0, 0, 1, 7, 0).is(0, "store", 12);
+        s.none("spread", 0);
+        s.does("put", 4, 0, 1, 8, NONE).is(0, "lane", 4, 3);
     }
 
     private static void theLane() {
@@ -1016,6 +1043,108 @@ public final class EdgesOfTerms {
         v.is(2 + 2, "finish", 2, 2);
         // One: 1 (0-2), then of LANES 0 (pass 2520 times 5) and 1 (lifted to nothing: none was LIVE) the least.
         v.is(10, "finish", 1, 0);
+    }
+
+    /** As many as there may be: 48 STAND, of each LANE no more than 32. */
+    private static Probe fortyEight(int size, int firstBehind) {
+        Probe s = new Probe();
+        s.does("rule", 4, 48).does("arrange", 0, 1, 32).does("arrange", 1, 1, 32);
+        for (int i = 0; i < 48; i++) {
+            s.does("put", i / 32, 0, size, i, i == 0 ? NONE : firstBehind);
+        }
+        return s;
+    }
+
+    private static void fullStoreOfHeld() {
+        term("those that come BEHIND it and are HELD WAIT, by numbers");
+        Probe s = fortyEight(1, 0);
+        s.is(47, "store", 2);
+        s.is(47, "hangs", 0);
+        // 47 TICKS by one; six at a time: eight turns behind the first.
+        s.is(48, "finish", 1, 0);
+        s.is(9, "finish", 6, 0);
+        Probe fails = s.twin();
+        s.completed(0, 0);
+        s.is(47, "store", 1);
+        s.is(0, "store", 2);
+        for (int k = 0; k < 47; k++) {
+            s.is(47 - k, "log", k, 2);
+            s.is(5, "log", k, 1);
+        }
+        s.is(2, "log", 47, 1);
+        fails.does("rule", 3, 1);
+        fails.taken(0, 0);
+        fails.is(47 + 1, "lapse", 10, 1);
+        fails.does("tick", 10).is(48, "store", 6);
+        for (int k = 0; k < 48; k++) {
+            fails.is(k, "aside", k);
+        }
+        fails.none("aside", 48);
+        fails.is(47, "blamed", 100);
+        fails.is(100, "worst");
+    }
+
+    private static void fullStoreOfResting() {
+        term("then all that REST, DUE by then, WAIT, the least DUE first, of like ones by numbers");
+        Probe s = fortyEight(1, NONE);
+        for (int i = 0; i < 48; i++) {
+            s.does("take", 0).does("fail", 0, i + 1, 1);
+        }
+        s.is(48, "store", 3);
+        s.is(0, "lapse", 1, 2);
+        s.is(48, "lapse", 2, 2);
+        s.is(47, "resting", 47);
+        s.none("resting", 48);
+        s.is(2 + 48, "finish", 1, 0);
+        s.is(2 + 8, "finish", 6, 0);
+        s.is(2 * 6, "finish", 6, 2);
+        s.refuses(-4, "put", 4, 0, 1, 900, NONE);
+        s.does("tick", 2).is(48, "store", 1);
+        s.is(0, "store", 3);
+        for (int k = 0; k < 48; k++) {
+            s.is(47 - k, "log", k, 2);
+        }
+        // The last of them, of PRIORITY 9 and SIZE 20, is TAKEN as soon as it is DUE.
+        Probe t = fortyEight(1, NONE);
+        t.does("cancel", 47).does("put", 1, 9, 20, 900, NONE);
+        for (int i = 0; i < 48; i++) {
+            t.does("take", 0).does("fail", 0, i + 1, 1);
+        }
+        t.is(2 + 20, "finish", 6, 0);
+        t.is(48, "finish", 6, 1);
+    }
+
+    private static void fullStoreFinishes() {
+        term("till none STANDS (no TIMER being there): in how many TICKS");
+        // 48 of SIZE 2, of which 10 REST till 1, 3, .. 19: one WORKER has never none.
+        Probe s = fortyEight(2, NONE);
+        for (int i = 0; i < 10; i++) {
+            s.does("rule", 2, 1 + 2 * i).does("take", 0).does("fail", 0, i + 1, 1);
+        }
+        s.is(96, "finish", 1, 0);
+        s.is(0, "finish", 1, 2);
+        s.is(48, "finish", 2, 0);
+        s.is(1, "enough", 96);
+        s.is(2, "enough", 95);
+        int first = (int) s.peek("empties", 0, 1);
+        int second = (int) s.peek("empties", 1, 1);
+        Probe.due("the later of both lanes is the end", 96, Math.max(first, second));
+        // One behind the other, each of the greatest SIZE: none is faster than one.
+        Probe row = new Probe();
+        row.does("rule", 4, 48).does("arrange", 0, 1, 32).does("arrange", 1, 1, 32);
+        for (int i = 0; i < 48; i++) {
+            row.does("put", i / 32, 0, 20, i, i - 1);
+        }
+        for (int w = 1; w <= 6; w++) {
+            row.is(960, "finish", w, 0);
+            row.is(47, "finish", w, 1);
+            row.is(960 * (w - 1), "finish", w, 2);
+            row.is(640, "empties", 0, w);
+            row.is(960, "empties", 1, w);
+        }
+        row.is(1, "enough", 960);
+        row.none("enough", 959);
+        row.is(960, "chain", 47, 0);
     }
 
     private static void hangs() {
