@@ -36,6 +36,7 @@ public final class EdgesOfTerms {
         strikes();
         oneTick();
         skipped();
+        timersAreLast();
         drained();
         timers();
         moved();
@@ -46,6 +47,7 @@ public final class EdgesOfTerms {
         fullStoreOfHeld();
         fullStoreOfResting();
         fullStoreFinishes();
+        finishByTheMostTurns();
         hangs();
         log();
         steps();
@@ -814,6 +816,45 @@ public final class EdgesOfTerms {
         }
     }
 
+    /** A TIMER whose time is the TICK at which a LEASE ends: what FAILS, and what WAITS again, is ahead of it. */
+    private static void timersAreLast() {
+        term("then of each TIMER of which it is time, by numbers, a TASK comes as it tells, none BEHIND, or is SKIPPED (counted), if it can't be");
+        // The KEY STANDS no more; RESTS yet; is BANNED just then. The LANE has ROOM just then; is CLOSED just then.
+        boolean[] comes = {true, false, false, true, false};
+        for (int how = 0; how < comes.length; how++) {
+            Probe s = new Probe();
+            s.does("rule", 3, how == 1 ? 2 : 1).does("put", 0, 0, 1, 7, NONE);
+            s.does("every", how == 4 ? 0 : 1, 0, 1, how < 3 ? 7 : 8, 10).does("take", 0);
+            if (how == 2) {
+                s.does("rule", 5, 1);
+            } else if (how == 3) {
+                s.does("rule", 4, 1);
+            } else if (how == 4) {
+                s.does("drain", 0);
+            }
+            s.does("tick", 9).is(0, "timer", 0, 5);
+            s.is(0, "timer", 0, 6);
+            s.does("tick", 1).is(comes[how] ? 1 : 0, "timer", 0, 5);
+            s.is(comes[how] ? 0 : 1, "timer", 0, 6);
+            s.is(how == 4 ? 2 : 0, "lane", 0, 2);
+            s.is(comes[how] ? 2 : 1, "store", 8);
+            s.is(0, "store", 10);
+        }
+        // One place for two: the lesser number has it.
+        Probe one = new Probe();
+        one.does("rule", 4, 1).does("every", 3, 0, 1, 5, 2).does("every", 0, 9, 1, 6, 1).does("every", 1, 9, 1, 4, 2);
+        one.does("tick", 1).does("cancel", 0).does("tick", 1).is(1, "timer", 0, 5);
+        one.is(1, "timer", 1, 6);
+        one.is(1, "timer", 2, 6);
+        // What RESTED WAITS already: its LANE is LIVE, and lifts the TIMER's.
+        Probe lifted = new Probe();
+        lifted.does("put", 0, 0, 4, 1, NONE).does("every", 1, 0, 1, 2, 2);
+        lifted.failed(0, 0, 1);
+        lifted.does("tick", 2).is(10080, "lane", 1, 3);
+        lifted.is(0, "log", 0, 1);
+        lifted.is(5, "log", 1, 1);
+    }
+
     private static void drained() {
         term("A DRAINING LANE in which none STANDS is CLOSED at once.");
         Probe empty = new Probe();
@@ -1145,6 +1186,50 @@ public final class EdgesOfTerms {
         row.is(1, "enough", 960);
         row.none("enough", 959);
         row.is(960, "chain", 47, 0);
+    }
+
+    /** All 48 REST, are DUE at TICKS of their own, and are DONE at others: nothing happens twice at one. */
+    private static void finishByTheMostTurns() {
+        term("at one TICK those are DONE first, by numbers, then those that REST and are DUE WAIT, as above, then they TAKE; till none STANDS");
+        Probe s = new Probe();
+        s.does("rule", 4, 48).does("rule", 3, 9).does("rule", 2, 1);
+        for (int i = 0; i < 48; i++) {
+            s.does("put", i % 5, 0, 1, i, NONE);
+        }
+        // Each FAILS thrice, so that the fourth time it RESTS longer than it takes the others to FAIL.
+        int token = 0;
+        for (int rest = 1; rest <= 4; rest *= 2) {
+            for (int i = 0; i < 48; i++) {
+                token++;
+                s.does("take", 0).does("fail", 0, token, 1);
+            }
+            s.does("tick", rest);
+        }
+        s.does("rule", 2, 20);
+        for (int i = 0; i < 48; i++) {
+            if (i > 0) {
+                s.does("tick", 2);
+            }
+            token++;
+            s.does("take", 0).does("fail", 0, token, 1);
+        }
+        s.is(101, "store", 0);
+        s.is(48, "store", 3);
+        // Of SIZE 1, DUE at 167, 169, .. 261, the last one 47 in lane 2.
+        s.is(167, "task", 0, 8);
+        s.is(261, "task", 47, 8);
+        s.is(161, "finish", 1, 0);
+        s.is(47, "finish", 1, 1);
+        s.is(161 - 48, "finish", 1, 2);
+        s.is(161, "finish", 6, 0);
+        s.is(47, "finish", 6, 1);
+        s.is(6 * 161 - 48, "finish", 6, 2);
+        int[] last = {45, 46, 47, 43, 44};
+        for (int lane = 0; lane < 5; lane++) {
+            s.is(161 - 2 * (47 - last[lane]), "empties", lane, 1);
+        }
+        s.is(1, "enough", 161);
+        s.none("enough", 160);
     }
 
     private static void hangs() {
