@@ -636,6 +636,17 @@ public final class EdgesOfAnswers {
         full.is(47, "turnOf", 31);
         full.is(31, "ahead", 47);
         full.none("ahead", 48);
+        aloneInALaneOfLessPass().is(0, "turnOf", 0);
+    }
+
+    /** 0 WAITS alone in lane 1 (PASS 0), 2 in lane 0 (PASS 2520), which is full: it comes to no LANE anew, so it keeps its PASS. */
+    private static Probe aloneInALaneOfLessPass() {
+        Probe s = new Probe();
+        s.does("put", 1, 0, 1, 1, NONE).does("put", 0, 0, 1, 2, NONE).does("put", 0, 0, 1, 3, NONE);
+        s.is(1, "take", 0);
+        s.does("arrange", 0, 1, 2).is(0, "lane", 1, 3);
+        s.is(2520, "lane", 0, 3);
+        return s;
     }
 
     private static void bestLane() {
@@ -681,6 +692,11 @@ public final class EdgesOfAnswers {
         first.is(0, "bestLane", 0, 1);
         first.does("arrange", 1, 1, 2).is(2, "bestLane", 0, 0);
         first.is(1, "bestLane", 0, 1);
+        // Its own is the best: it does not leave it. In 2, 3, 4 it would be lifted, and be behind 2.
+        Probe own = aloneInALaneOfLessPass();
+        own.is(1, "bestLane", 0, 0);
+        own.is(0, "bestLane", 0, 1);
+        own.does("move", 0, 2).is(1, "turnOf", 0);
     }
 
     private static void chain() {
