@@ -1753,24 +1753,28 @@ public final class LaneStore {
         static final int LINES = 64;
         static final int COLUMNS = 6;
         final int[] cells = new int[LINES * COLUMNS];
-        int written;
+        // Neither grows with all that was written, so no use is too long for them.
+        int next;
+        int kept;
 
         void write(int tick, int what, Task t, int worker, int cause) {
-            int at = written % LINES * COLUMNS;
+            int at = next * COLUMNS;
             cells[at] = tick;
             cells[at + 1] = what;
             cells[at + 2] = t.number;
             cells[at + 3] = t.lane.number;
             cells[at + 4] = worker;
             cells[at + 5] = cause;
-            written++;
+            next = next + 1 < LINES ? next + 1 : 0;
+            kept = Math.min(kept + 1, LINES);
         }
 
         int read(int k, int what) {
-            if (k < 0 || k >= Math.min(written, LINES) || what < 0 || what >= COLUMNS) {
+            if (k < 0 || k >= kept || what < 0 || what >= COLUMNS) {
                 return NO_LINE;
             }
-            return cells[(written - 1 - k) % LINES * COLUMNS + what];
+            int line = next - 1 - k;
+            return cells[(line < 0 ? line + LINES : line) * COLUMNS + what];
         }
     }
 

@@ -109,6 +109,8 @@ public final class FaceAndLanguage {
             must(Set.of("java.util.Arrays", "java.util.ArrayList", "java.util.List").contains(imports.group(1)), imports.group());
         }
         must(code.chars().allMatch(c -> c < 128), "signs of 1 to 127 alone");
+        // A remainder is below 0 when a counter has run over, and then it is no index.
+        must(code.replace("x / 64 % m", "").indexOf('%') < 0, "no remainder but that of a draw, whose x is never below 0");
     }
 
     private static void methodsStayShort(String source) {
